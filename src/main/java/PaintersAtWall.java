@@ -148,7 +148,7 @@ public final class PaintersAtWall {
     }
 
     public int fewest() {
-        return Whole.fewest(laid, wall.worn);
+        return Whole.fewestPaints(laid, wall.worn);
     }
 
     public int scrape(int what) {
@@ -773,7 +773,7 @@ public final class PaintersAtWall {
             return found;
         }
 
-        static int fewest(Plan plan, int worn) {
+        static int fewestPaints(Plan plan, int worn) {
             int fits = plan.fitting(worn);
             int bare = plan.bare(worn);
             int used = paintsIn(worn);
