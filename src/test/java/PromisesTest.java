@@ -231,6 +231,21 @@ public final class PromisesTest {
         dueCounts("nothing changes", y, 2, 3, 1, 1, 1, 1, 1, 15, 1);
         due("undo", y.undo(), 0);
         due("may(0) of 0", y.may(0), 4);
+        PaintersAtWall z = laid("r2,2;n3;m1,1;x1,2;h0,1;h1,2;a0,1;w1;");
+        z.wipe();
+        due("nothing of the TEXT before is left", z.lay(), 4);
+        for (int s = 0; s < 4; s++) {
+            due("stone(" + s + ", 0)", z.stone(s, 0), 0);
+            due("stone(" + s + ", 1)", z.stone(s, 1), 0);
+            due("may(" + s + ")", z.may(s), 3);
+        }
+        due("touch(1, 1)", z.touch(1, 1), 0);
+        due("touch(1, 2)", z.touch(1, 2), 1);
+        due("touch(1, 3)", z.touch(1, 3), BAD);
+        z.paint(0, 2);
+        due("may(2) of 1", z.may(2), 3);
+        due("last of a and w", laid("r1,2;w0;a0,2;").stone(0, 0), 2);
+        due("last of a and w", laid("r1,2;w0;a0,2;").ways(), 1);
     }
 
     private static void dueOldOnes(String text, boolean fine) {
@@ -572,12 +587,12 @@ public final class PromisesTest {
         for (int what : new int[] {-1, 2, LEAST, MOST}) {
             due("beer(" + what + ")", x.beer(what), BAD);
         }
-        // The same stones under other paints: nothing of the wall laid before may be left.
-        PaintersAtWall y = laid("r1,2;n1;");
-        dueBeer(y, 1, 1);
-        write(y, "m1,1;");
-        due("lay", y.lay(), 2);
+        // The same stones under other rules: nothing that was found on the wall laid before may be left.
+        PaintersAtWall y = laid("r1,4;n1;");
         dueBeer(y, 0, NONE);
+        write(y, "m1,1;w0;");
+        due("lay", y.lay(), 4);
+        dueBeer(y, 1, 11);
     }
 
     private static void dueWhite(PaintersAtWall x, int d, int value, int painting) {
