@@ -2,7 +2,8 @@ import java.util.Arrays;
 
 /**
  * Two painters at one wall, as ../shared/DOC.md tells. A PAINTING (a STONE with a PAINT) is one bit of an int:
- * 9 (PAINT - 1) + STONE. What is on a wall is a set of paintings, and so is what MAY be painted.
+ * 9 (PAINT - 1) + STONE. What is on a wall is a set of paintings, and so is what MAY be painted: so no search
+ * makes an object, and a step of one is one look at what a painting rules out.
  */
 public final class PaintersAtWall {
     public static final int BAD = -1, NO = -2, FULL = -3, NONE = -4;
@@ -258,7 +259,6 @@ public final class PaintersAtWall {
         return wall.worn & ~laid.old;
     }
 
-    /** THE TEXT. */
     private static final class Text {
         private static final int MOST = 200;
 
@@ -287,7 +287,6 @@ public final class PaintersAtWall {
         }
     }
 
-    /** What a TEXT tells: the wall's shape, the paints and who has them, the old stones and those that take none. */
     private static final class Plan {
         private static final int ALIKE_APART = 0b100_010_001;
 
@@ -300,7 +299,7 @@ public final class PaintersAtWall {
         private int paintsOf1;
         private int old;
         private int shut;
-        // From here on what follows from the rest, by settle(): a search takes one step by one look at ruledOut.
+        // What follows from the rest is worked out once a lay(), by settle(), as searches ask for it at each step.
         private int all;
         private int firstColumn;
         private int fitsAtFirst;
@@ -361,18 +360,13 @@ public final class PaintersAtWall {
         }
 
         void setOld(int s, int p) {
-            forget(s);
-            old |= painting(s, p);
+            old = withoutPaint(old, 1 << s) | painting(s, p);
+            shut &= ~(1 << s);
         }
 
         void setShut(int s) {
-            forget(s);
-            shut |= 1 << s;
-        }
-
-        private void forget(int s) {
             old = withoutPaint(old, 1 << s);
-            shut &= ~(1 << s);
+            shut |= 1 << s;
         }
 
         void settle() {
@@ -398,7 +392,6 @@ public final class PaintersAtWall {
             return inPaints(1 << s, 7) | inPaints(near(1 << s), foes);
         }
 
-        /** The stones that touch one of a set. */
         int near(int set) {
             int lastColumn = firstColumn << columns - 1;
             int beside = (set & ~lastColumn) << 1 | (set & ~firstColumn) >> 1;
@@ -420,7 +413,6 @@ public final class PaintersAtWall {
             return all & ~shut & ~painted(worn);
         }
 
-        /** The paintings that can come next on such a wall, whoever has the paints. */
         int fitting(int worn) {
             int fits = fitsAtFirst;
             for (int i = 0; i < ruledOut.length; i++) {
@@ -431,7 +423,6 @@ public final class PaintersAtWall {
             return fits;
         }
 
-        /** Those of the fitting paintings that still fit behind one of them. */
         int fittingAfter(int fits, int painting) {
             int place = Integer.bitCount(painting - 1);
             return place < ruledOut.length ? fits & ~ruledOut[place] : 0;
@@ -462,7 +453,7 @@ public final class PaintersAtWall {
         }
 
         static int withoutPaint(int worn, int set) {
-            return worn & ~inPaints(set, 7);
+            return worn & ~(set | set << STONES | set << 2 * STONES);
         }
 
         static int paintOn(int worn, int s) {
@@ -470,14 +461,12 @@ public final class PaintersAtWall {
             return bits == 4 ? 3 : bits;
         }
 
-        /** The paints (bits) of all the paintings of a stone in a set of paintings. */
         static int paintsAt(int paintings, int s) {
             int onIt = paintings >> s;
             return onIt & 1 | (onIt >> STONES & 1) << 1 | (onIt >> 2 * STONES & 1) << 2;
         }
     }
 
-    /** Reads THE TEXT, item by item. */
     private static final class Reader {
         private int at;
         private int first;
@@ -512,7 +501,7 @@ public final class PaintersAtWall {
             return first >= 0 && second >= 0 && takes(letter, plan);
         }
 
-        /** The number at this place with the sign due behind it; -1 if it is not so. */
+        // A fault is told as -1, which no number of a text can be.
         private int number(Text text, int end) {
             int value = 0;
             int figures = 0;
@@ -615,7 +604,6 @@ public final class PaintersAtWall {
         }
     }
 
-    /** The wall as it stands: paintings on it, the order in which they came, whose turn it is; what was before, what is kept. */
     private static final class Wall {
         private static final int ORDER_BITS = 4;
 
@@ -710,7 +698,6 @@ public final class PaintersAtWall {
         }
     }
 
-    /** The told row. */
     private static final class Row {
         private final int[] paintings = new int[9];
         private int length;
@@ -744,17 +731,19 @@ public final class PaintersAtWall {
         }
     }
 
-    /** What can become of the whole wall, whoever has the paints. */
     private static final class Whole {
+        // 9 stones can be filled in 3^9 ways at most.
+        private static final int MORE_THAN_ALL = 20000;
+
         static int waysToFill(Plan plan, int worn) {
-            return fillings(plan, plan.fitting(worn), plan.bare(worn), Integer.MAX_VALUE, 0);
+            return fillings(plan, plan.fitting(worn), plan.bare(worn), MORE_THAN_ALL, 0);
         }
 
         private static boolean canBeDone(Plan plan, int worn) {
             return fillings(plan, plan.fitting(worn), plan.bare(worn), 1, 0) != 0;
         }
 
-        /** In how many ways the bare stones can be filled by what fits; the search ends at a number that is enough. */
+        // Who asks only whether there is a way says that 1 is enough, and the search ends there.
         private static int fillings(Plan plan, int fits, int bare, int enough, int depth) {
             if (bare == 0) {
                 return 1;
@@ -825,18 +814,19 @@ public final class PaintersAtWall {
         }
     }
 
-    /** Both games: each painter has a will for the end, and his is what the other one's is not. */
+    // Both games are one search, as in both the one has his will where the other one has not.
     private static final class Game {
-        /** For the game in which neither would be stuck, whatever the wall is then. */
+        // In the game for the beer neither cares what the wall is at the end.
         static final int NOBODY = 2;
 
         private static final int UNKNOWN = 0, LOST = 1, WON = 2, CELL_BITS = 12;
 
-        // A place's last answer: 27 bits of what fits, 1 of turn, 2 of whose wish, 2 of answer. What is pushed out is
-        // searched again. What fits tells enough: the rest of a wall changes neither game.
+        // A cell: 27 bits of what fits, 1 of turn, 2 of whose wish, 2 of answer. What fits tells enough, as the rest of
+        // a wall changes neither game. A new answer pushes an old one out, which costs time alone: a cell for each wall
+        // would cost more room than the room of a run has for many objects.
         private final int[] known = new int[1 << CELL_BITS];
 
-        /** What is known holds for the laid wall alone. */
+        // What is known holds for the laid wall alone.
         void forget() {
             Arrays.fill(known, 0);
         }
@@ -845,7 +835,6 @@ public final class PaintersAtWall {
             return wins(plan, wisher, fittingForSome(plan, worn), plan.bare(worn), turn, 0);
         }
 
-        /** The lowest painting (10 times STONE, and PAINT) by which he whose turn it is gets his will. */
         int lowestGood(Plan plan, int wisher, int worn, int turn) {
             int fits = fittingForSome(plan, worn);
             int bare = plan.bare(worn);
@@ -917,7 +906,7 @@ public final class PaintersAtWall {
         }
     }
 
-    /** In what orders the wall can have come to be as it stands. */
+    // No order is gone through: the stones on a wall never clash, so all that counts is who has which paint.
     private static final class Past {
         static int ordersOf(Plan plan, int loose) {
             int many = Integer.bitCount(loose);
@@ -979,7 +968,6 @@ public final class PaintersAtWall {
         }
     }
 
-    /** Going on by lot, and evenings. */
     private static final class Lot {
         private long above;
         private long below;
@@ -1049,7 +1037,6 @@ public final class PaintersAtWall {
             return what == 0 ? painter : painted;
         }
 
-        /** The painting that has this number, by stone, then paint. */
         private static int picked(int choices, int number) {
             int left = number;
             for (int s = 0; s < STONES; s++) {
