@@ -713,8 +713,8 @@ public final class PromisesTest {
         dueEvening(laid("r1,1;w0;"), 9999, 0, 0);
         dueEvening(laid("r1,1;h0,0;"), 0, 0, 0);
         dueEvening(laid("r3,3;n3;m1,1;m2,2;m3,3;"), 9999, 1, 9);
-        // z = 0: number 1 is (0, 2), which leaves 1 nothing; by PAINT first it were (1, 1).
-        dueEvening(laid("r1,2;n2;h1,2;x1,2;x2,2;m1,1;"), 0, 1, 1);
+        // z = 0: number 1 is (0, 2), which leaves 1 nothing; by PAINT first it were (1, 1), which does not.
+        dueEvening(laid("r1,2;n2;h1,1;x1,2;m1,1;"), 0, 1, 1);
         PaintersAtWall x = new PaintersAtWall();
         for (int z : new int[] {-1, 10000, LEAST, MOST}) {
             due("evening(" + z + ", 0)", x.evening(z, 0), BAD);
