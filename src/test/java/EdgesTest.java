@@ -38,10 +38,13 @@ public final class EdgesTest {
         calls512();
         laid();
         turns();
-        rainAndUndo();
+        rained();
+        undone();
         toldRows();
         wholeWall();
-        games();
+        scraped();
+        beers();
+        whites();
         orders();
         lots();
         kept();
@@ -697,7 +700,7 @@ public final class EdgesTest {
         on("r1,2;n1;", "paint(0,1)=1 count(2)=1 pass()=0 count(2)=0 pass()=1 count(2)=1 count(3)=1");
     }
 
-    private static void rainAndUndo() {
+    private static void rained() {
         String nine = "r1,9;n3;a8,1;";
         String four = "paint(3,1)=2 paint(0,2)=3 paint(5,3)=4 paint(1,1)=5 ";
         says("RAIN takes the PAINT off the n (1 to 3) STONES that were painted last");
@@ -721,6 +724,11 @@ public final class EdgesTest {
         on(nine, four + "rain(3)=3 rain(3)=1 rain(3)=NO");
         says("whose turn it is stays.");
         on(nine, four + "count(2)=0 rain(1)=1 count(2)=0 rain(2)=2 count(2)=0 paint(0,1)=3 count(2)=1 rain(1)=1 count(2)=1 rain(3)=1 count(2)=1");
+    }
+
+    private static void undone() {
+        String nine = "r1,9;n3;a8,1;";
+        String four = "paint(3,1)=2 paint(0,2)=3 paint(5,3)=4 paint(1,1)=5 ";
         says("UNDONE is the latest paint(), rain(), pass()");
         on(nine, "undo()=NO paint(3,1)=2 undo()=0 stone(3,0)=0 count(2)=0 count(3)=1 undo()=NO");
         on(nine, four + "rain(3)=3 undo()=4 stone(0,0)=2 stone(5,0)=3 stone(1,0)=1 count(8)=4 rain(1)=1 stone(1,0)=0 rain(1)=1 stone(5,0)=0");
@@ -736,6 +744,13 @@ public final class EdgesTest {
         on("r3,3;n1;m1,1;", nineTimes + "paint(8,1)=9 pass()=0 rain(3)=3 count(5)=8 " + undone + "count(3)=3 stone(2,0)=1 count(2)=1");
         on("r3,3;n1;m1,1;", nineTimes + "undo()=7 undo()=6 undo()=5 paint(8,1)=6 count(5)=6 rain(1)=1 count(5)=7 undo()=6 stone(8,0)=1");
         on("r1,1;w0;", "pass()=1 pass() pass() pass() pass() pass() pass() pass()=0 pass()=1 pass()=0 pass()=1 count(5)=8 " + undone + "count(2)=1");
+        StringBuilder eachUndone = new StringBuilder(nineTimes + "paint(8,1)=9 rain(1)=1 paint(8,1)=9 ");
+        int[] left = {8, 9, 8, 7, 6, 5, 4, 3};
+        for (int i = 0; i < 8; i++) {
+            eachUndone.append("undo()=").append(7 - i).append(" count(3)=").append(left[i]).append(" count(8)=").append(left[i]).append(" stone(")
+                .append(left[i] - 1).append(",0)=1 count(2)=").append(i == 0 ? 1 : left[i] % 2).append(' ');
+        }
+        on("r3,3;n1;m1,1;", eachUndone + "undo()=NO");
     }
 
     private static void toldRows() {
@@ -752,6 +767,9 @@ public final class EdgesTest {
         says("by turns:");
         on("h0,1;h1,2;", "tell(0,1) tell(3,2) judge()=NONE tell(2,1) judge()=NONE tell(1,1) judge()=3 paint(0,1) judge()=0");
         on("h0,1;h1,2;", "tell(0,2) judge()=0 paint(3,1) judge()=NONE tell(1,2) judge()=1");
+        on("h0,1;h1,2;", "paint(3,1) tell(0,2) judge()=NONE tell(1,1) judge()=NONE tell(2,2) judge()=NONE");
+        on("h0,1;h1,2;", "paint(3,1) tell(0,2) tell(2,2) judge()=1");
+        on("h0,1;h1,2;", "paint(3,1) tell(0,1) judge()=0");
         on("h1,0;", "tell(0,1) judge()=NONE tell(1,2) judge()=1 tell(2,1) judge()=1");
         says("the place of the first that MAY not be;");
         run("tell(0,1) tell(0,1) tell(0,1) judge()=1");
@@ -800,15 +818,22 @@ public final class EdgesTest {
         on("r1,2;n3;m3,3;h0,1;h1,1;", "fewest()=1");
         on("r2,2;w0;w1;w2;w3;", "fewest()=0");
         on("r1,1;a0,2;", "fewest()=1");
+        on("r3,3;n3;", "paint(8,3) fewest()=2 paint(6,3) fewest()=2 paint(2,3) fewest()=2 paint(0,1) fewest()=3");
+        on("r3,3;n3;", "paint(8,2) fewest()=2 paint(6,2) fewest()=2 paint(5,1) fewest()=2 paint(7,3) fewest()=3");
         says("none.");
         on("r1,3;", "paint(0,1) paint(2,2) fewest()=NONE");
         on("r1,2;x1,2;", "fewest()=NONE");
+    }
+
+    private static void scraped() {
         says("SCRAPE: of sets of STONES (bits) that have PAINT and are not old,");
         on("r1,3;a0,1;", "paint(2,2)=2 scrape(0)=1 scrape(1)=4");
         on("r1,5;a0,1;a4,2;", "scrape(0)=NONE scrape(1)=NONE");
         on("r1,5;a4,2;", "paint(0,1) paint(2,1) scrape(0)=2 scrape(1)=5");
         says("such that there are WAYS, if they had none,");
         run("scrape(0)=0 scrape(1)=0 paint(0,1) scrape(0)=0 scrape(1)=0");
+        on("r3,3;", "scrape(0)=0 scrape(1)=0 matters()=0 ways()=2");
+        on("r1,9;n3;", "scrape(0)=0 scrape(1)=0 matters()=0 paint(8,3) paint(6,1) scrape(0)=0");
         on("r1,2;", "paint(0,1) paint(1,2) scrape(0)=0 scrape(1)=0");
         on("r1,7;", "paint(0,1) paint(2,2) paint(4,1) paint(6,2) scrape(0)=2 scrape(1)=17");
         says("that of fewest,");
@@ -845,7 +870,7 @@ public final class EdgesTest {
         return " white(" + d + ",0)=" + value + " white(" + d + ",1)=" + painting + " ";
     }
 
-    private static void games() {
+    private static void beers() {
         says("Both go on painting by turns till he whose turn it is is STUCK. BEER: he pays, and neither would.");
         on("r1,1;w0;", beer(0, "NONE"));
         on("r1,1;", beer(1, "1") + "paint(0,1)=1" + beer(0, "NONE"));
@@ -875,6 +900,9 @@ public final class EdgesTest {
         says("none.");
         on("r1,2;n1;m1,1;", "beer(1)=NONE beer(0)=0");
         on("r1,1;", "paint(0,1) beer(1)=NONE beer(0)=0");
+    }
+
+    private static void whites() {
         says("WHITE: PAINTER d would have it DONE then, the other one not.");
         on("r1,2;", white(0, 1, "1") + white(1, 1, "NONE"));
         on("r1,2;n1;", white(0, 0, "NONE") + white(1, 0, "1"));
@@ -1016,6 +1044,12 @@ public final class EdgesTest {
         on("r1,2;h1,0;", "evening(0,0)=1 evening(0,1)=1 paint(0,1) evening(0,0)=1 evening(0,1)=1 pass()=0 evening(0,0)=1 evening(0,1)=2");
         on("r3,3;n3;m1,1;m2,2;m3,3;", "evening(0,0)=1 evening(0,1)=9 evening(9999,0)=1 evening(9999,1)=9");
         says("who it is; how many STONES have PAINT then.");
+        for (String text : new String[] {"", "r3,3;n3;", "r3,3;n3;m1,1;h0,5;h1,6;", "r1,9;n3;x1,2;", "r9,1;n2;m2,2;h1,1;", "r2,4;n3;x1,2;x1,3;m2,2;a7,1;",
+            "r3,3;n3;h0,4;h1,3;w4;", "r3,3;n1;", "r1,9;n1;", "r1,9;n3;x3,1;x3,2;h0,6;"}) {
+            for (int z = 0; z < 60; z++) {
+                dueAsPainted(text, 163 * z);
+            }
+        }
         on("r1,1;w0;", "evening(5,0)=0 evening(5,1)=0 pass()=1 evening(5,0)=1 evening(5,1)=0");
         on("r1,3;n1;a0,1;", "evening(7,0)=1 evening(7,1)=2");
         on("r1,4;n1;", "paint(0,1)=1 evening(7,0)=0 evening(7,1)=2");
@@ -1024,6 +1058,31 @@ public final class EdgesTest {
     private static int drawn(int z, int k, int of) {
         long x = 7919L * z + 6151L * k + 1;
         return (int) (x * x % 65521 % of);
+    }
+
+    /** An EVENING ends as a wall does on which what is drawn is painted. */
+    private static void dueAsPainted(String text, int z) {
+        PaintersAtWall asked = written(text), painted = written(text);
+        asked.lay();
+        painted.lay();
+        boolean stuck = false;
+        for (int k = 0; !stuck; k++) {
+            List<int[]> may = new ArrayList<>();
+            for (int s = 0; s < painted.count(0); s++) {
+                for (int p = 1; p <= 3; p++) {
+                    if ((painted.may(s) >> p - 1 & 1) != 0) {
+                        may.add(new int[] {s, p});
+                    }
+                }
+            }
+            stuck = may.isEmpty();
+            if (!stuck) {
+                int[] one = may.get(drawn(z, k, may.size()));
+                painted.paint(one[0], one[1]);
+            }
+        }
+        due("evening(" + z + ", 0) of " + text, asked.evening(z, 0), painted.count(2));
+        due("evening(" + z + ", 1) of " + text, asked.evening(z, 1), painted.count(3));
     }
 
     /** How many of five in a row, with one paint, come to be painted. */
